@@ -955,10 +955,9 @@ public final class ThawGives {
         }
 
         private boolean takeNumber() {
-            int end = Math.min(at + 2, length);
             int from = at;
             number = 0;
-            while (at < end && signs[at] >= '0' && signs[at] <= '9') {
+            while (at < length && at < from + 2 && signs[at] >= '0' && signs[at] <= '9') {
                 number = 10 * number + signs[at] - '0';
                 at++;
             }
@@ -967,31 +966,19 @@ public final class ThawGives {
 
         private boolean takeClause() {
             int first = at < length ? signs[at] : 0;
-            switch (first) {
-                case 'w':
-                    return takeWord("warm ") && takeRest(1);
-                case 'f':
-                    return takeWord("frost ") && takeRest(-1);
-                case 's':
-                    if (!takeWord("snow ") || !takeNumber()) {
-                        return false;
-                    }
-                    pass.snow = number;
-                    return true;
-                default:
-                    return false;
-            }
-        }
-
-        private boolean takeRest(int towards) {
-            if (!takeNumber()) {
+            String word = first == 'w' ? "warm " : first == 'f' ? "frost " : "snow ";
+            if (!takeWord(word) || !takeNumber()) {
                 return false;
             }
-            int n = number;
+            if (first == 's') {
+                pass.snow = number;
+                return true;
+            }
+            int n = first == 'w' ? number : -number;
             if (!take(' ') || !takeEither(0)) {
                 return false;
             }
-            pass.add(Pass.CLAUSE, 0, towards * n);
+            pass.add(Pass.CLAUSE, 0, n);
             return true;
         }
 
