@@ -12,9 +12,6 @@ public final class ThawGives {
     private static final int NOTHING = -11, CAST = -12, PLACE = -13, SIZE = -14;
     /** The answer of what is asked and is not to be had. */
     private static final int NEVER = -5;
-    /** WHEN of a THING that is not OUT by then: greater than all others. */
-    private static final int LATER = 61;
-
     private static final int THING = 0, METAL = 1, CLOTH = 2, LIVING = 3, KNIFE = 4, LETTER = 5, TOLD = 6;
     /** For each KIND the one that it stands under. */
     private static final int[] ABOVE = {-1, THING, THING, THING, METAL, CLOTH, LIVING};
@@ -26,6 +23,8 @@ public final class ThawGives {
     private static final int LAST_WEEK = 9999;
     /** How many WEEKS ahead ON, SEEN and all the others look at most. */
     private static final int FAR = 60, NEAR = 20, MIDDLE = 30;
+    /** WHEN of a THING that is not OUT by then: greater than all others. */
+    private static final int LATER = FAR + 1;
     /** The greatest WORTH and DEPTH, the greatest v and number of a ROW. */
     private static final int MOST = 99, MOST_V = 9;
 
@@ -371,7 +370,7 @@ public final class ThawGives {
     }
 
     public int act(int thing, int act, int x) {
-        acts.ran = 0;
+        acts.forget();
         if (!isThing(thing) || !isUpTo(act, Acts.TELLS)) {
             return 0;
         }
@@ -1065,8 +1064,11 @@ public final class ThawGives {
         private int number = 0;
         private int v = 0;
 
-        private int start(Thing thing, int act, int x) {
+        private void forget() {
             ran = 0;
+        }
+
+        private int start(Thing thing, int act, int x) {
             kind = thing.kind;
             number = thing.number;
             v = thing.v;

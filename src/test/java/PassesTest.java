@@ -9,6 +9,7 @@ public final class PassesTest {
         nesting();
         clauses();
         textAndPassAfterCol();
+        nothingIsLeftOver();
         fullOfPasses();
         tests();
         binding();
@@ -162,6 +163,24 @@ public final class PassesTest {
         CHECK.due("three PASSES", x.count(1), 3);
     }
 
+    /** What a FAULT leaves behind does not come into the next PASS, nor what a longer text had behind its end. */
+    private static void nothingIsLeftOver() {
+        ThawGives x = new ThawGives();
+        x.thing(0, 0, 0, 50);
+        CHECK.due("a FAULT behind two CLAUSES", Check.col(x, "snow 5;warm 7 p=0;snow 6 "), -34);
+        CHECK.due("no SNOW by it", x.told(1), 0);
+        CHECK.due("the next", Check.col(x, "warm 1 p=0"), 0);
+        CHECK.due("its CLAUSES alone", x.of(0, 4), 9);
+        CHECK.due("without SNOW", x.told(1), 0);
+        String whole = "warm 1 p=0|p=1";
+        for (int end = 0; end < whole.length(); end++) {
+            ThawGives y = new ThawGives();
+            Check.col(y, whole);
+            boolean isPass = end == 10;
+            CHECK.due("cut behind " + end, Check.col(y, whole.substring(0, end)), isPass ? 1 : -10 - end);
+        }
+    }
+
     private static void fullOfPasses() {
         ThawGives x = new ThawGives();
         x.thing(0, 0, 0, 50);
@@ -175,7 +194,7 @@ public final class PassesTest {
         CHECK.due("six", x.count(1), 6);
     }
 
-    /** Each letter below, at and above what it stands for: thing 1 is a LETTER, v 4, WORTH 29, DEPTH 38, WEEK 12. */
+    /** Each letter below, at and above what it stands for: thing 1 is a LETTER, v 4, WORTH 29, DEPTH 39, WEEK 12. */
     private static void tests() {
         String letters = "pkvwdm";
         int[] values = {1, 5, 4, 2, 3, 2};
@@ -196,7 +215,7 @@ public final class PassesTest {
         x.thing(0, 0, 0, 0);
         x.thing(5, 4, 29, 0);
         x.pass(12);
-        x.set(1, 1, 38);
+        x.set(1, 1, 39);
         CHECK.due(test + " is read", Check.col(x, "warm 40 " + test), 0);
         // SUM is 6 or 46, half of it and v are melted
         CHECK.due(test + " holds", x.of(1, 4), due ? 27 : 7);

@@ -86,6 +86,13 @@ public final class PlansTest {
         x.plan(0, 0);
         endsOf(x, 26, 2);
         CHECK.due("WORTH stays", x.of(0, 2), 35);
+        x.plan(-1, 0);
+        x.plan(2, 0);
+        x.set(0, 0, 39);
+        x.plan(0, 0);
+        endsOf(x, 34, 2);
+        x.set(0, 0, 40);
+        endsOf(x, 35, 2);
         // the WEEKS of a PLAN go on from this one, and are beyond 9999, too
         ThawGives y = new ThawGives();
         for (int i = 0; i < 166; i++) {
@@ -260,7 +267,7 @@ public final class PlansTest {
         CHECK.due("the BOOK", x.count(4), 2);
         CHECK.due("LOOKED at", x.looked(), 1);
         x.see(-1, 0, false);
-        x.see(0, 0, true);
+        x.see(0, 5, false);
         x.plan(-1, 0);
         x.plan(3, 0);
         x.undo();

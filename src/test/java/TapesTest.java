@@ -31,9 +31,11 @@ public final class TapesTest {
             CHECK.due("the last of 60", x.read(sort, 59), 0);
             CHECK.due("no place 60", x.read(sort, 60), ThawGives.NO);
             x.item(sort, 59, 1);
+            x.item(sort, 0, 1);
             CHECK.due("set", x.read(sort, 59), 1);
             CHECK.due("made again", x.tape(sort, sort, 60), 1);
             CHECK.due("all 0", x.read(sort, 59), 0);
+            CHECK.due("all 0", x.read(sort, 0), 0);
         }
         CHECK.due("a row of none", x.tape(0, 0, 0), 1);
         CHECK.due("no place 0", x.item(0, 0, 1), -13);

@@ -9,6 +9,7 @@ public final class WeeksTest {
         told();
         orderAndCrossed();
         crossedEdges();
+        whenByLaterWeeks();
         pass();
         lastWeek();
         on();
@@ -81,6 +82,9 @@ public final class WeeksTest {
         CHECK.due("WEEK", x.told(0), 2);
         CHECK.due("SNOW", x.told(1), 33);
         CHECK.due("OUT", x.told(2), 5);
+        x.set(1, 1, 8);
+        CHECK.due("not yet OUT", x.told(2), 5);
+        x.set(1, 1, 25);
         CHECK.due("DEPTH", x.told(3), 25 + 83);
         int[] none = {-1, 6, 7, 8, 9, 14, 15, 16, 100, Integer.MAX_VALUE, Integer.MIN_VALUE};
         for (int what : none) {
@@ -141,6 +145,25 @@ public final class WeeksTest {
         CHECK.due("DEPTH", x.of(0, 3), 39);
         CHECK.due("pass(1)", x.pass(1), 61);
         CHECK.due("DEPTH", x.of(0, 3), 38);
+    }
+
+    /** WHEN, by what is otherwise in later WEEKS. */
+    private static void whenByLaterWeeks() {
+        ThawGives x = new ThawGives();
+        x.thing(3, 9, 0, 10);
+        x.thing(0, 0, 0, 60);
+        x.thing(6, 9, 0, 10);
+        x.row(2, 3, 4);
+        x.pass(3);
+        Check.col(x, "warm 30 p=1&m=5");
+        x.set(1, 1, 60);
+        CHECK.due("LIVING from WEEK 9 on", x.of(0, 5), 8);
+        CHECK.due("warm in WEEK 5", x.of(1, 5), 4);
+        CHECK.due("ROW in WEEKS 3 and 7, all in WEEK 9", x.of(2, 5), 7);
+        CHECK.due("behind WEEK 7", x.on(5, 12), 2);
+        CHECK.due("ORDER", x.told(10), 1);
+        CHECK.due("ORDER", x.told(11), 2);
+        CHECK.due("ORDER", x.told(12), 0);
     }
 
     private static void lastWeek() {

@@ -38,6 +38,8 @@ public final class WorthsTest {
         // what is dearer may be out, too
         byOf(withOne(0, 0, 3, 40, "warm 50 w=7"), 1, 10, 79);
         byOf(withOne(0, 0, 3, 40, "warm 50 w=7;warm 35 w=0"), 1, 20, 79);
+        byOf(withOne(5, 6, 99, 20, ""), 2, 10, 9);
+        byOf(withOne(6, 2, 99, 20, ""), 5, 20, 19);
         ThawGives y = withOne(4, 0, 0, 60, "");
         byOf(y, 5, 20, 19);
         y.pass(1);
