@@ -12,6 +12,7 @@ public final class ThawGives {
     private static final int NOTHING = -11, CAST = -12, PLACE = -13, SIZE = -14;
     /** The answer of what is asked and is not to be had. */
     private static final int NEVER = -5;
+
     private static final int THING = 0, METAL = 1, CLOTH = 2, LIVING = 3, KNIFE = 4, LETTER = 5, TOLD = 6;
     /** For each KIND the one that it stands under. */
     private static final int[] ABOVE = {-1, THING, THING, THING, METAL, CLOTH, LIVING};
@@ -21,10 +22,10 @@ public final class ThawGives {
     private static final int MOST_SIGNS = 100, MOST_CLAUSES = 10, MOST_WITHIN = 4;
     private static final int MOST_ITEMS = 60;
     private static final int LAST_WEEK = 9999;
-    /** How many WEEKS ahead ON, SEEN and all the others look at most. */
-    private static final int FAR = 60, NEAR = 20, MIDDLE = 30;
+    /** How many WEEKS ahead a call may look: mostly, by other WORTHS and DEPTHS, by what is SEEN. */
+    private static final int MOST_WEEKS = 60, MOST_WEEKS_TRIED = 30, MOST_WEEKS_SEEN = 20;
     /** WHEN of a THING that is not OUT by then: greater than all others. */
-    private static final int LATER = FAR + 1;
+    private static final int LATER = MOST_WEEKS + 1;
     /** The greatest WORTH and DEPTH, the greatest v and number of a ROW. */
     private static final int MOST = 99, MOST_V = 9;
 
@@ -114,7 +115,7 @@ public final class ThawGives {
         if (!isThing(thing)) {
             return WIDE_NONE;
         }
-        if (!isUpTo(n, FAR)) {
+        if (!isUpTo(n, MOST_WEEKS)) {
             return WIDE_BAD;
         }
         return now.things[thing].meltIn(now.week + n, holding());
@@ -183,7 +184,7 @@ public final class ThawGives {
     // ---- weeks
 
     public int pass(int n) {
-        if (!isUpTo(n, FAR)) {
+        if (!isUpTo(n, MOST_WEEKS)) {
             return BAD;
         }
         if (now.week + n > LAST_WEEK) {
@@ -201,7 +202,7 @@ public final class ThawGives {
         if (what != 0 && !isOfThing) {
             return NONE;
         }
-        if (!isUpTo(n, FAR)) {
+        if (!isUpTo(n, MOST_WEEKS)) {
             return BAD;
         }
         return isOfThing ? depthBehind(what - 10, n) : outBits(n);
@@ -213,7 +214,7 @@ public final class ThawGives {
         if (!isThing(thing) || !isUpTo(what, 1)) {
             return NONE;
         }
-        if (!isUpTo(n, MIDDLE)) {
+        if (!isUpTo(n, MOST_WEEKS_TRIED)) {
             return BAD;
         }
         return what == 0 ? worthsOut(thing, n) : greatestWorthOut(thing, n);
@@ -223,7 +224,7 @@ public final class ThawGives {
         if (!isThing(thing) || !isUpTo(what, 1)) {
             return NONE;
         }
-        if (!isUpTo(n, MIDDLE)) {
+        if (!isUpTo(n, MOST_WEEKS_TRIED)) {
             return BAD;
         }
         return what == 0 ? less(thing, n) : moreToKeep(thing, n);
@@ -239,7 +240,7 @@ public final class ThawGives {
         if (!isThing(thing)) {
             return NONE;
         }
-        if (!isUpTo(n, NEAR)) {
+        if (!isUpTo(n, MOST_WEEKS_SEEN)) {
             return BAD;
         }
         return now.seen.add(thing, n, isOut ? 1 : 0);
@@ -262,14 +263,14 @@ public final class ThawGives {
     }
 
     public long odds(int thing, int n, int part) {
-        if (!isThing(thing) || !isUpTo(n, MIDDLE) || !isUpTo(part, 1)) {
+        if (!isThing(thing) || !isUpTo(n, MOST_WEEKS_TRIED) || !isUpTo(part, 1)) {
             return NO;
         }
         return partOf(worthsOut(thing, n), MOST + 1, part);
     }
 
     public long mean(int n, int part) {
-        if (!isUpTo(n, FAR) || !isUpTo(part, 1) || now.count == 0) {
+        if (!isUpTo(n, MOST_WEEKS) || !isUpTo(part, 1) || now.count == 0) {
             return NO;
         }
         return partOf(depthOfAll(n), now.count, part);
@@ -543,7 +544,7 @@ public final class ThawGives {
     private int whenOf(int thing) {
         Pass pass = holding();
         trial.become(now.things[thing]);
-        for (int n = 0; n <= FAR; n++) {
+        for (int n = 0; n <= MOST_WEEKS; n++) {
             if (trial.isOut()) {
                 return n;
             }
@@ -907,7 +908,9 @@ public final class ThawGives {
         private final byte[] signs = new byte[MOST_SIGNS];
         private int length = 0;
         private int at = 0;
+        /** The latest number that was read. */
         private int number = 0;
+        /** What is read into: only of use while readInto runs. */
         private Pass pass = new Pass();
 
         private void add(int sign) {
@@ -1045,7 +1048,7 @@ public final class ThawGives {
     private static final class Acts {
         private static final int SINKS = 0, SHOWS = 1, TELLS = 2;
         private static final int MOST_KEPT = 20;
-        /** No run of bodies goes deeper than some six. */
+        /** Far above what any ACT needs: no body stands within more than six others. */
         private static final int DEEPEST = 40;
         /** For each KIND the bodies of sinks, shows, tells: its own, or those of the next KIND above. */
         private static final int[] BODIES = {
