@@ -2,12 +2,19 @@
 final class Check {
     private int asked = 0;
     private int wrong = 0;
+    /** The document's sentence that what follows is about. */
+    private String sentence = "";
+
+    /** All that is due from here on is due by this sentence of the document. */
+    void by(String words) {
+        sentence = words + ": ";
+    }
 
     void due(String call, long got, long want) {
         asked++;
         if (got != want) {
             wrong++;
-            System.out.println(call + " answered " + got + ", due is " + want);
+            System.out.println(sentence + call + " answered " + got + ", due is " + want);
         }
     }
 
@@ -28,6 +35,13 @@ final class Check {
     static void feed(ThawGives x, String text) {
         for (int i = 0; i < text.length(); i++) {
             x.feed(text.charAt(i));
+        }
+    }
+
+    /** WEEKS go, however many there are to be. */
+    static void pass(ThawGives x, int weeks) {
+        for (int left = weeks; left > 0; left -= 60) {
+            x.pass(Math.min(left, 60));
         }
     }
 }
