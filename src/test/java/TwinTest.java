@@ -2,14 +2,17 @@ import java.util.Random;
 
 /** Long runs of calls, drawn with fixed seeds, on ThawGives and on its Twin: each must answer as the other does. */
 public final class TwinTest {
-    private static final int RUNS = 300;
-    private static final int CALLS = 290;
+    private static final int RUNS = 400;
+    /** No call begins behind so many: the longest is a TEXT's, of some hundred, and 512 are promised. */
+    private static final int CALLS = 400;
+    private static final int LONGEST_TEXT = 103;
     private static final int TEXTS = 4000;
     private static final Check CHECK = new Check();
 
     private final Random random;
     private final ThawGives x = new ThawGives();
     private final Twin twin = new Twin();
+    private int asked = 0;
 
     private TwinTest(long seed) {
         random = new Random(seed);
@@ -18,11 +21,14 @@ public final class TwinTest {
     public static void main(String[] args) {
         for (int run = 0; run < RUNS; run++) {
             TwinTest test = new TwinTest(run);
-            // some runs begin with all six THINGS, some with a PASS that means something
+            // some runs begin near the last WEEK, some with all six THINGS
+            for (int i = 0; i < 166 && run % 8 == 7; i++) {
+                test.weeks("run " + run, 60);
+            }
             for (int i = 0; i < run % 7; i++) {
                 test.thing();
             }
-            for (int call = 0; call < CALLS; call++) {
+            while (test.asked < CALLS) {
                 test.call(run);
             }
         }
@@ -63,6 +69,7 @@ public final class TwinTest {
     }
 
     private void due(String call, long got, long want) {
+        asked++;
         CHECK.due(call, got, want);
     }
 
@@ -72,6 +79,10 @@ public final class TwinTest {
         int worth = near(99);
         int depth = upTo(5) == 0 ? 0 : near(99);
         due("thing", x.thing(kind, v, worth, depth), twin.thing(kind, v, worth, depth));
+    }
+
+    private void weeks(String name, int n) {
+        due(name + " pass", x.pass(n), twin.pass(n));
     }
 
     private void call(int run) {
@@ -111,8 +122,7 @@ public final class TwinTest {
                 due(name + " told " + told, x.told(told), twin.told(told));
             }
             case 8 -> {
-                int weeks = upTo(3) == 0 ? near(60) : near(3);
-                due(name + " pass", x.pass(weeks), twin.pass(weeks));
+                weeks(name, upTo(3) == 0 ? near(60) : near(3));
             }
             case 9 -> {
                 int weeks = near(60);
@@ -226,6 +236,7 @@ public final class TwinTest {
         for (int i = 0; i < wrongs && text.length() > 0; i++) {
             spoil(text);
         }
+        text.setLength(Math.min(text.length(), LONGEST_TEXT));
         for (int i = 0; i < text.length(); i++) {
             due(name + " feed", x.feed(text.charAt(i)), twin.feed(text.charAt(i)));
         }
